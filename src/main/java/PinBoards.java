@@ -1051,18 +1051,22 @@ public final class PinBoards {
         }
 
         int sizeOf(int pin) {
-            switch (board.kind[pin]) {
-                case OLD:
-                    return body13(pin);
-                case WHALE:
-                    leave(14);
-                    return 2 * body13(pin);
-                case MIXED:
-                    leave(12);
-                    return -body11(pin);
-                default:
-                    return body11(pin);
+            if (isA(board.kind[pin], OLD)) {
+                return sizeOfOldOne(pin);
             }
+            if (board.kind[pin] != MIXED) {
+                return body11(pin);
+            }
+            leave(12);
+            return -body11(pin);
+        }
+
+        private int sizeOfOldOne(int pin) {
+            if (board.kind[pin] != WHALE) {
+                return body13(pin);
+            }
+            leave(14);
+            return 2 * body13(pin);
         }
 
         int markOf(int pin) {
@@ -1070,16 +1074,15 @@ public final class PinBoards {
         }
 
         private int markOfAgent(int pin) {
-            switch (board.kind[pin]) {
-                case MIXED:
-                    leave(24);
-                    return 2 * body21(pin);
-                case ROVER:
-                    leave(22);
-                    return body21(pin) - 1000;
-                default:
-                    return body21(pin);
+            if (board.kind[pin] == MIXED) {
+                leave(24);
+                return 2 * body21(pin);
             }
+            if (board.kind[pin] != ROVER) {
+                return body21(pin);
+            }
+            leave(22);
+            return body21(pin) - 1000;
         }
 
         private int body10(int pin) {
@@ -1111,7 +1114,7 @@ public final class PinBoards {
         private int body23(int pin) {
             leave(23);
             int lent = body20(pin);
-            return lent - sizeOf(pin);
+            return lent - sizeOfOldOne(pin);
         }
 
         private void leave(int number) {
