@@ -8,6 +8,7 @@ public final class ForetoldTest {
     public static void main(String[] args) {
         goingOn();
         tomsk();
+        tomskAtMost();
         round();
         right();
         best();
@@ -71,6 +72,29 @@ public final class ForetoldTest {
             """);
     }
 
+    /** Three openings bring all three pins one cell on; opening 30 is behind 60 turns by day. */
+    private static void tomskAtMost() {
+        Script.run("tomsk, at most", """
+            text m1;c0;c0;c0;c0;c0;c0;c0;c0;c0;c0;c0;c0;c0;c0;c0;c0;s0,1,0;s1,1,0;r2,1,0;
+            map = 3
+            move 1 0 = 1
+            move 2 0 = 2
+            tomsk 0 9 = 54
+            tomsk 0 10 = 60
+            tomsk 0 11 = NONE
+            tomsk 1 10 = 58
+            tomsk 1 11 = NONE
+            tomsk 2 10 = 56
+            tomsk 2 11 = NONE
+            times 1 = 0
+            tomsk 0 10 = 59
+            tomsk 2 11 = NONE
+            times 1 = 1
+            tomsk 2 11 = 60
+            tomsk 0 10 = 58
+            """);
+    }
+
     private static void round() {
         Script.run("round by day, and by night", """
             text m1;c0;c0;c0;c0;c0;c0;r0,1,0;w1,1,0;
@@ -116,6 +140,19 @@ public final class ForetoldTest {
             text s0,1,0;s1,1,0;s2,1,0;s3,1,0;s4,1,0;r5,1,0;
             map = 6
             round = 192
+            """);
+        // rings of 5 * 10 and 2 * 10 openings
+        Script.run("round of seven, at most", """
+            text m1;c0;c0;c0;c0;c0;c0;c0;c0;c0;c0;
+            text s0,1,0;s1,1,0;s2,1,0;s3,1,0;r4,1,0;s5,1,1;r6,1,1;
+            map = 7
+            round = 200
+            """);
+        Script.run("round of seven, a little beyond the most", """
+            text m1;c0;c0;c0;c0;c0;c0;c0;c0;c0;c0;c0;c0;c0;c0;c0;
+            text s0,1,0;s1,1,0;s2,1,0;s3,1,0;s4,1,0;s5,1,0;r6,1,0;
+            map = 7
+            round = NONE
             """);
         Script.run("round of seven, beyond the most", """
             text m1;c0;c0;c0;c0;c0;c0;c0;c0;c0;c0;c0;c0;c0;c0;c0;c0;
