@@ -119,106 +119,96 @@ public final class MapTest {
             """);
     }
 
-    /** Reads a text on a new object and says where and of which number the fault is due. */
-    private static void fault(String text, int place, int number) {
-        PinBoards boards = new PinBoards();
-        Script.feed(boards, text);
-        Script.due("map of " + text, boards.map(), -1000100 - place);
-        Script.due("fault of " + text, boards.fault(), number);
-        Script.due("tape after " + text, boards.count(9), 0);
-        Script.due("cells after " + text, boards.count(1), 0);
-    }
-
     private static void faultsOfTheLaw() {
-        fault("", 0, 1);
-        fault("c1;", 0, 1);
-        fault("M1;", 0, 1);
-        fault(" m1;", 0, 1);
-        fault("1m;", 0, 1);
-        fault(";", 0, 1);
-        fault("m", 1, 1);
-        fault("m;", 1, 1);
-        fault("mm1;", 1, 1);
-        fault("m 1;", 1, 1);
-        fault("m-1;", 1, 1);
-        fault("m16;", 1, 2);
-        fault("m99", 1, 2);
-        fault("m100;", 1, 1);
-        fault("m0001;", 1, 1);
-        fault("m001", 1, 1);
-        fault("m1", 2, 1);
-        fault("m15", 3, 1);
-        fault("m1,", 2, 1);
-        fault("m1c", 2, 1);
-        fault("m1 ;", 2, 1);
-        fault("m1;", 3, 1);
-        fault("m1;a0,1,0;", 3, 1);
-        fault("m1;5", 3, 1);
-        fault("m1;555", 3, 1);
-        fault("m1;m1;", 3, 1);
-        fault("m1;" + (char) 200, 3, 1);
-        fault("m1;" + (char) 0, 3, 1);
+        Script.fault("", 0, 1);
+        Script.fault("c1;", 0, 1);
+        Script.fault("M1;", 0, 1);
+        Script.fault(" m1;", 0, 1);
+        Script.fault("1m;", 0, 1);
+        Script.fault(";", 0, 1);
+        Script.fault("m", 1, 1);
+        Script.fault("m;", 1, 1);
+        Script.fault("mm1;", 1, 1);
+        Script.fault("m 1;", 1, 1);
+        Script.fault("m-1;", 1, 1);
+        Script.fault("m16;", 1, 2);
+        Script.fault("m99", 1, 2);
+        Script.fault("m100;", 1, 1);
+        Script.fault("m0001;", 1, 1);
+        Script.fault("m001", 1, 1);
+        Script.fault("m1", 2, 1);
+        Script.fault("m15", 3, 1);
+        Script.fault("m1,", 2, 1);
+        Script.fault("m1c", 2, 1);
+        Script.fault("m1 ;", 2, 1);
+        Script.fault("m1;", 3, 1);
+        Script.fault("m1;a0,1,0;", 3, 1);
+        Script.fault("m1;5", 3, 1);
+        Script.fault("m1;555", 3, 1);
+        Script.fault("m1;m1;", 3, 1);
+        Script.fault("m1;" + (char) 200, 3, 1);
+        Script.fault("m1;" + (char) 0, 3, 1);
     }
 
     private static void faultsOfCells() {
-        fault("m1;c", 4, 1);
-        fault("m1;c;", 4, 1);
-        fault("m1;c10;", 4, 2);
-        fault("m1;c99", 4, 2);
-        fault("m1;c010;", 4, 1);
-        fault("m1;c1", 5, 1);
-        fault("m1;c1,", 5, 1);
-        fault("m1;c1;c1;c1;", 12, 1);
-        fault("m1;c1;c1;c1;a0,1,0;", 12, 1);
-        fault("m1;c1;c1;c1;x", 12, 1);
-        fault(LAW_AND_CELLS + "x", 15, 1);
-        fault(LAW_AND_CELLS + "m1;", 15, 1);
-        fault(LAW_AND_CELLS + ";", 15, 1);
-        fault(LAW_AND_CELLS + "C1;", 15, 1);
-        fault(LAW_AND_CELLS + "12", 15, 1);
+        Script.fault("m1;c", 4, 1);
+        Script.fault("m1;c;", 4, 1);
+        Script.fault("m1;c10;", 4, 2);
+        Script.fault("m1;c99", 4, 2);
+        Script.fault("m1;c010;", 4, 1);
+        Script.fault("m1;c1", 5, 1);
+        Script.fault("m1;c1,", 5, 1);
+        Script.fault("m1;c1;c1;c1;", 12, 1);
+        Script.fault("m1;c1;c1;c1;a0,1,0;", 12, 1);
+        Script.fault("m1;c1;c1;c1;x", 12, 1);
+        Script.fault(LAW_AND_CELLS + "x", 15, 1);
+        Script.fault(LAW_AND_CELLS + "m1;", 15, 1);
+        Script.fault(LAW_AND_CELLS + ";", 15, 1);
+        Script.fault(LAW_AND_CELLS + "C1;", 15, 1);
+        Script.fault(LAW_AND_CELLS + "12", 15, 1);
         String sixteen = "m1;" + "c1;".repeat(16);
-        fault(sixteen + "c", 51, 3);
-        fault(sixteen + "c1;", 51, 3);
-        fault(sixteen + "c10;", 51, 3);
-        fault(sixteen + "b", 51, 1);
-        fault(sixteen + "a16,1,0;", 52, 2);
+        Script.fault(sixteen + "c", 51, 3);
+        Script.fault(sixteen + "c1;", 51, 3);
+        Script.fault(sixteen + "c10;", 51, 3);
+        Script.fault(sixteen + "b", 51, 1);
+        Script.fault(sixteen + "a16,1,0;", 52, 2);
     }
 
     private static void faultsOfPins() {
-        fault(LAW_AND_CELLS + "a", 16, 1);
-        fault(LAW_AND_CELLS + "a,", 16, 1);
-        fault(LAW_AND_CELLS + "aa", 16, 1);
-        fault(LAW_AND_CELLS + "a4,1,0;", 16, 2);
-        fault(LAW_AND_CELLS + "a400,1,0;", 16, 1);
-        fault(LAW_AND_CELLS + "a0", 17, 1);
-        fault(LAW_AND_CELLS + "a0;", 17, 1);
-        fault(LAW_AND_CELLS + "a0,", 18, 1);
-        fault(LAW_AND_CELLS + "a0,0,0;", 18, 2);
-        fault(LAW_AND_CELLS + "a0,10,0;", 18, 2);
-        fault(LAW_AND_CELLS + "a0,001,0;", 18, 1);
-        fault(LAW_AND_CELLS + "a0,1", 19, 1);
-        fault(LAW_AND_CELLS + "a0,1;", 19, 1);
-        fault(LAW_AND_CELLS + "a0,1,", 20, 1);
-        fault(LAW_AND_CELLS + "a0,1,4;", 20, 2);
-        fault(LAW_AND_CELLS + "a0,1,;", 20, 1);
-        fault(LAW_AND_CELLS + "a0,1,0", 21, 1);
-        fault(LAW_AND_CELLS + "a0,1,0,", 21, 1);
-        fault(LAW_AND_CELLS + "a0,1,0;c1;", 22, 1);
-        fault(LAW_AND_CELLS + "a0,1,0;m", 22, 1);
-        fault(LAW_AND_CELLS + "a0,1,0;b", 22, 1);
-        fault(LAW_AND_CELLS + "a0,1,0;1", 22, 1);
-        fault(LAW_AND_CELLS + "a0,1,0;s0,1,0;", 23, 2);
-        fault(LAW_AND_CELLS + "a0,1,0;s1,1,0;w00,1,0;", 30, 2);
-        fault(LAW_AND_CELLS + "a0,1,0;s1,1,0;w001,1,0;", 30, 1);
+        Script.fault(LAW_AND_CELLS + "a", 16, 1);
+        Script.fault(LAW_AND_CELLS + "a,", 16, 1);
+        Script.fault(LAW_AND_CELLS + "aa", 16, 1);
+        Script.fault(LAW_AND_CELLS + "a4,1,0;", 16, 2);
+        Script.fault(LAW_AND_CELLS + "a400,1,0;", 16, 1);
+        Script.fault(LAW_AND_CELLS + "a0", 17, 1);
+        Script.fault(LAW_AND_CELLS + "a0;", 17, 1);
+        Script.fault(LAW_AND_CELLS + "a0,", 18, 1);
+        Script.fault(LAW_AND_CELLS + "a0,0,0;", 18, 2);
+        Script.fault(LAW_AND_CELLS + "a0,10,0;", 18, 2);
+        Script.fault(LAW_AND_CELLS + "a0,001,0;", 18, 1);
+        Script.fault(LAW_AND_CELLS + "a0,1", 19, 1);
+        Script.fault(LAW_AND_CELLS + "a0,1;", 19, 1);
+        Script.fault(LAW_AND_CELLS + "a0,1,", 20, 1);
+        Script.fault(LAW_AND_CELLS + "a0,1,4;", 20, 2);
+        Script.fault(LAW_AND_CELLS + "a0,1,;", 20, 1);
+        Script.fault(LAW_AND_CELLS + "a0,1,0", 21, 1);
+        Script.fault(LAW_AND_CELLS + "a0,1,0,", 21, 1);
+        Script.fault(LAW_AND_CELLS + "a0,1,0;c1;", 22, 1);
+        Script.fault(LAW_AND_CELLS + "a0,1,0;m", 22, 1);
+        Script.fault(LAW_AND_CELLS + "a0,1,0;b", 22, 1);
+        Script.fault(LAW_AND_CELLS + "a0,1,0;1", 22, 1);
+        Script.fault(LAW_AND_CELLS + "a0,1,0;s0,1,0;", 23, 2);
+        Script.fault(LAW_AND_CELLS + "a0,1,0;s1,1,0;w00,1,0;", 30, 2);
+        Script.fault(LAW_AND_CELLS + "a0,1,0;s1,1,0;w001,1,0;", 30, 1);
         String cells = "m1;" + "c1;".repeat(9);
         StringBuilder seven = new StringBuilder(cells);
         for (int pin = 0; pin < 7; pin++) {
             seven.append("aswroaa".charAt(pin)).append(pin).append(",1,0;");
         }
-        fault(seven + "a", 79, 3);
-        fault(seven + "w7,1,0;", 79, 3);
-        fault(seven + "x", 79, 1);
-        fault(seven + "c1;", 79, 1);
+        Script.fault(seven + "a", 79, 3);
+        Script.fault(seven + "w7,1,0;", 79, 3);
+        Script.fault(seven + "x", 79, 1);
+        Script.fault(seven + "c1;", 79, 1);
     }
 
     private static void whatStays() {

@@ -43,6 +43,16 @@ final class Script {
         }
     }
 
+    /** Reads a text on a new object and says where and of which number the fault is due. */
+    static void fault(String text, int place, int number) {
+        PinBoards boards = new PinBoards();
+        feed(boards, text);
+        due("map of " + text, boards.map(), -1000100 - place);
+        due("fault of " + text, boards.fault(), number);
+        due("tape after " + text, boards.count(9), 0);
+        due("cells after " + text, boards.count(1), 0);
+    }
+
     private static void runLine(String title, PinBoards boards, String line) {
         String[] sides = line.split("=");
         if (sides.length != 2) {
