@@ -7,6 +7,9 @@ import java.nio.file.Files;
 import java.nio.file.Path;
 import java.util.Arrays;
 import java.util.List;
+import java.util.Map;
+import java.util.Set;
+import java.util.TreeMap;
 import java.util.TreeSet;
 import java.util.regex.Matcher;
 import java.util.regex.Pattern;
@@ -27,6 +30,7 @@ public final class RulesTest {
         words(code);
         loops(code);
         methodLengths(code);
+        callDepths(code);
         Script.end();
     }
 
@@ -134,12 +138,15 @@ public final class RulesTest {
         }
     }
 
+    private static boolean beginsMethod(String line) {
+        return line.matches("\\s+[\\w\\[\\] ]+\\(.*\\) \\{") && !line.matches("\\s+(if|for|switch|} else).*");
+    }
+
     private static void methodLengths(String code) {
         int length = 0;
         int depth = 0;
         for (String line : code.split("\n")) {
-            boolean begins = line.matches("\\s+[\\w\\[\\] ]+\\(.*\\) \\{") && !line.matches("\\s+(if|for|switch|} else).*");
-            if (begins) {
+            if (beginsMethod(line)) {
                 length = 0;
                 depth++;
             }
@@ -148,5 +155,42 @@ public final class RulesTest {
                 && !line.matches("    }|}|    private static final class.*"), false);
         }
         Script.due("methods were seen", depth > 60, true);
+    }
+
+    /** No two methods share a name, so that a name tells which one is called. */
+    private static void callDepths(String code) {
+        Map<String, Set<String>> calls = new TreeMap<>();
+        for (String line : code.split("\n")) {
+            if (beginsMethod(line)) {
+                String name = line.replaceAll("^(.*?)(\\w+)\\(.*", "$2");
+                Script.due("a method of the name " + name + " alone", calls.put(name, new TreeSet<>()) == null, true);
+            }
+        }
+        String in = "";
+        Pattern call = Pattern.compile("\\b(\\w+)\\(");
+        for (String line : code.split("\n")) {
+            if (beginsMethod(line)) {
+                in = line.replaceAll("^(.*?)(\\w+)\\(.*", "$2");
+                continue;
+            }
+            Matcher called = call.matcher(line);
+            while (called.find()) {
+                if (calls.containsKey(called.group(1)) && !in.isEmpty()) {
+                    calls.get(in).add(called.group(1));
+                }
+            }
+        }
+        for (String name : calls.keySet()) {
+            Script.due(name + " calls eight deep at most", depth(calls, name, 1) <= 8, true);
+        }
+    }
+
+    /** A method that calls itself, by others too, comes out as nine deep. */
+    private static int depth(Map<String, Set<String>> calls, String name, int above) {
+        int deepest = above;
+        for (String called : calls.get(name)) {
+            deepest = Math.max(deepest, above > 8 ? above : depth(calls, called, above + 1));
+        }
+        return deepest;
     }
 }
